@@ -9,6 +9,7 @@ final class AdvertsTest {
         forgotten();
         downOnTheWay();
         comeByTwoLinks();
+        olderBehindNewer();
         backToItsOwn();
         sumsByTurns();
         sums();
@@ -83,8 +84,11 @@ final class AdvertsTest {
         Check.due("its own is", x.router(0, 2), 1);
         Check.due("never stale", x.router(0, 3), 0);
         x.set(0, 1);
-        x.ticks(2);
+        x.tick();
+        Check.due("what is forgotten makes no edge", x.within(0, 1, 0, 0), 9999);
+        x.tick();
         Check.due("taken anew", x.advert(0, 1, 0, 1), 1);
+        Check.due("and makes one", x.within(0, 1, 0, 0), 1);
     }
 
     private static void downOnTheWay() {
@@ -120,6 +124,23 @@ final class AdvertsTest {
         Check.due("ring", ring.tick(), 8);
         Check.due("ring", ring.tick(), 8);
         Check.due("who gets it from both sides sends it to none", ring.tick(), 0);
+    }
+
+    /** To 1 and 2 comes 0's newer one, and in the same tick its older one by the link between them. */
+    private static void olderBehindNewer() {
+        Check.part("promise 8");
+        LinkRouter x = new LinkRouter();
+        x.link(0, 1, 0, 1, 1);
+        x.link(1, 2, 0, 1, 1);
+        x.link(0, 2, 0, 1, 1);
+        x.ticks(5);
+        x.cost(0, 0, 2);
+        Check.due("0's second", x.tick(), 2);
+        x.cost(0, 0, 3);
+        Check.due("0's third, and its second on", x.tick(), 4);
+        Check.due("the third on: it has not come by that link", x.tick(), 2);
+        Check.due("number", x.advert(2, 0, 0, 0), 3);
+        Check.due("none", x.tick(), 0);
     }
 
     private static void backToItsOwn() {
@@ -175,8 +196,15 @@ final class AdvertsTest {
         Check.due("1 of 3 to area 2: by 0", x.advert(4, 1, 2, 33), 3);
         Check.due("0 of 5: none", x.advert(1, 0, 0, 35), 9999);
         Check.due("3 is no border", x.advert(0, 3, 1, 31), 9999);
+        Check.due("1 of 4 to area 1: across the backbone, by 0", x.advert(2, 1, 1, 34), 4);
+        x.link(5, 6, 0, 2, 2);
+        x.link(6, 0, 1, 5, 5);
         x.set(0, 0);
-        x.ticks(12);
+        x.ticks(25);
+        Check.due("6 is a border, and of 0 it tells the backbone", x.advert(5, 6, 0, 30), 5);
+        x.link(5, 7, 2, 1, 1);
+        x.ticks(25);
+        Check.due("5 of 0 to area 2: across, by 6", x.advert(7, 5, 2, 30), 7);
         Check.due("0 is no border more", x.advert(3, 0, 1, 31), 9999);
         Check.due("its own of the backbone, too", x.advert(0, 0, 0, 33), 9999);
         Check.due("which tells no links", x.advert(0, 0, 0, 2), 0);

@@ -12,6 +12,7 @@ final class ToldTest {
         film();
         image();
         imageOnTheWay();
+        imageOfSums();
         back();
         count();
     }
@@ -99,7 +100,13 @@ final class ToldTest {
         Check.due("none", x.tells(0, 0, 5), -1);
         row(x, 0, 1, 11, 9);
         Check.due("from end one alone", x.tells(0, 2, 4), 0);
+        row(x, 0, 1, 0, 11, 9);
+        x.set(1, 0);
         x.set(2, 0);
+        row(x, 0, 1, 0, 12, -1);
+        Check.due("12 alone", x.tells(0, 0, 4), 1);
+        Check.due("the least", x.tells(0, 0, 5), 12);
+        x.set(1, 1);
         row(x, 0, 1, 0, 1, 3);
         Check.due("of one that is down", x.tells(0, 0, 12), 12);
         Check.due("in thought alone", x.told(2, 3), 9);
@@ -129,6 +136,9 @@ final class ToldTest {
         Check.due("more than 8", x.tells(0, 0, 0), -2);
         Check.due("no such link goes before more than 8", x.tells(0, 0, 16), -12);
         Check.due("8", x.tells(1, 0, 0), 1);
+        LinkRouter y = new LinkRouter();
+        y.sheet(0, 1, 1);
+        Check.due("no link at all", y.tells(0, 0, 4), -12);
     }
 
     private static void film() {
@@ -190,6 +200,8 @@ final class ToldTest {
         Check.due("messages", x.count(3), 14);
         Check.due("on the way", x.count(4), 2);
         Check.due("to 1", x.message(0, 1), 1);
+        Check.due("to 2", x.message(1, 1), 2);
+        Check.due("by link 2", x.message(1, 0), 2);
         Check.due("up", x.count(1), 3);
         Check.due("cost", x.told(1, 3), 2);
         Check.due("known", x.count(5), 9);
@@ -198,6 +210,23 @@ final class ToldTest {
         Check.due("it goes on", x.tick(), 2);
         Check.due("its cost", x.advert(1, 0, 0, 10), 4);
         Check.due("4 knows nothing", x.router(4, 2), 0);
+    }
+
+    private static void imageOfSums() {
+        Check.part("promise 23");
+        LinkRouter x = new LinkRouter();
+        x.link(0, 1, 0, 2, 2);
+        x.link(1, 2, 1, 3, 3);
+        x.ticks(6);
+        x.image();
+        x.cost(1, 0, 8);
+        x.ticks(6);
+        Check.due("a sum", x.advert(0, 1, 0, 32), 8);
+        Check.due("a route by it", x.route(0, 2, 0), 10);
+        x.back();
+        Check.due("the sum as it was", x.advert(0, 1, 0, 32), 3);
+        Check.due("the route as it was", x.route(0, 2, 0), 5);
+        Check.due("quiet as it was", x.settled(0), 1);
     }
 
     private static void back() {

@@ -45,6 +45,13 @@ final class WaysTest {
         x.cost(1, 0, 3);
         x.tick();
         Check.due("by 2 alone now", x.within(0, 3, 0, 1), 2);
+        x.cost(1, 0, 1);
+        x.cost(3, 0, 3);
+        x.cost(0, 0, 2);
+        x.cost(2, 0, 2);
+        x.ticks(2);
+        Check.due("again by 1 or 2", x.within(0, 3, 0, 0), 4);
+        Check.due("the least, though now it is the nearer one", x.within(0, 3, 0, 1), 1);
         int[][] bad = {
             {8, 0, 0, 0}, {-1, 0, 0, 0}, {0, 8, 0, 0}, {0, -1, 0, 0}, {0, 1, 3, 0}, {0, 1, -1, 0}, {0, 1, 0, 2}, {0, 1, 0, -1},
         };
@@ -315,6 +322,7 @@ final class WaysTest {
         x.set(0, 0);
         Check.due("each knows the others' former ones", x.settled(2), 6);
         Check.due("what waits when a link goes down arrives, not taken", waitsBehindABreak(), 2);
+        neverQuiet();
         Check.due("what 3", x.settled(3), -2);
         Check.due("what -1", x.settled(-1), -2);
     }
@@ -326,6 +334,26 @@ final class WaysTest {
         x.tick();
         x.set(0, 0);
         return x.settled(0);
+    }
+
+    /** On a line of eight 0, 7 and 1 tell anew one behind another, so that one of theirs is always on its way. */
+    private static void neverQuiet() {
+        LinkRouter x = new LinkRouter();
+        for (int i = 0; i < 7; i++) {
+            x.link(i, i + 1, 0, 1, 1);
+        }
+        x.ticks(30);
+        x.cost(0, 0, 2);
+        x.ticks(8);
+        x.cost(6, 1, 2);
+        x.ticks(7);
+        x.cost(0, 1, 2);
+        x.ticks(20);
+        Check.due("never quiet", x.settled(0), -1);
+        Check.due("each of eight four times over seven links", x.settled(1), 224);
+        Check.due("none is stale", x.settled(2), 0);
+        Check.due("80 ticks in thought", x.ticks(80), 224);
+        Check.due("never quiet", x.settled(0), -1);
     }
 
     private static void broken() {
