@@ -200,6 +200,7 @@ final class ToldTest {
         Check.due("messages", x.count(3), 14);
         Check.due("on the way", x.count(4), 2);
         Check.due("to 1", x.message(0, 1), 1);
+        Check.due("by link 0", x.message(0, 0), 0);
         Check.due("to 2", x.message(1, 1), 2);
         Check.due("by link 2", x.message(1, 0), 2);
         Check.due("up", x.count(1), 3);
