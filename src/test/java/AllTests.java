@@ -14,6 +14,7 @@ public final class AllTests {
         HostTest.run();
         WildTest.run();
         ModelTest.run();
+        Edges.run();
         if (!Check.close()) {
             System.exit(1);
         }
