@@ -125,6 +125,8 @@ final class EdgesOfAdverts {
         x.then("cost", 2, 0, 8).then("ticks", 4).due(7, "advert", 1, 0, 0, 32);
         x.then("cost", 1, 0, 8).then("ticks", 4).due(8, "advert", 1, 0, 0, 32);
         Run star = Scenes.star().then("set", 1, 0).then("tick").due(9999, "advert", 0, 0, 0, 32).due(4, "advert", 0, 0, 0, 33);
+        Run notAcross = new Run().then("link", 0, 1, 0, 1, 1).then("link", 0, 1, 1, 1, 1).then("link", 1, 2, 2, 1, 1).then("ticks", 9);
+        notAcross.due(1, "advert", 0, 1, 0, 32).due(9999, "advert", 1, 0, 0, 32).due(2, "advert", 1, 0, 1, 32);
     }
 
     /** Within the backbone goes before across it, even if it is dearer. */

@@ -306,6 +306,8 @@ final class EdgesOfLinks {
         x.then("tick").leaves(3, "router", 0, 2).due(3, "router", 2, 2);
         Run star = Scenes.star().leaves(6, "router", 0, 2);
         star.due(2, "router", 1, 2).due(2, "router", 2, 2).due(2, "router", 3, 2).due(12, "count", 5);
+        Scenes.line(2, 6, 7, 1).then("tick").due(1, "router", 6, 2).due(1, "router", 7, 2).then("tick").due(2, "router", 6, 2)
+            .due(2, "router", 7, 2);
     }
 
     private static void routerStale() {
@@ -315,6 +317,7 @@ final class EdgesOfLinks {
         x.then("set", 0, 0).due(2, "router", 0, 3);
         x.then("set", 2, 0).due(3, "router", 2, 3);
         x.then("tick").due(2, "router", 0, 3).due(2, "router", 1, 3).due(2, "router", 2, 3);
+        Scenes.line(2, 6, 7, 1).then("ticks", 2).then("cost", 0, 1, 9).due(1, "router", 6, 3).due(1, "router", 7, 3);
     }
 
     private static void routerRefuses() {

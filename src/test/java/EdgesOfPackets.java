@@ -67,6 +67,12 @@ final class EdgesOfPackets {
         packet(x.then("cost", 1, 1, 4), 0, 1, 1, 4, 1);
         packet(x.then("set", 2, 0), 0, 1, 1, 4, 1);
         packet(x.then("set", 1, 0), 0, 1, 1, 5, 1);
+        Run full = new Run();
+        for (int i = 0; i < 12; i++) {
+            full.then("link", i % 2 == 0 ? 0 : 7, i % 2 == 0 ? 7 : 0, 0, 20 - i, 20 - i);
+        }
+        packet(full.then("ticks", 3), 0, 7, 1, 9, 7);
+        packet(full.then("set", 11, 0), 7, 0, 1, 10, 0);
     }
 
     private static void knownNow() {

@@ -17,6 +17,7 @@ final class EdgesOfTicks {
         itsOwn();
         oneOlder();
         ageOfSixty();
+        ageOfSixtyOfAll();
         butItsOwn();
         neverTold();
         toldOnce();
@@ -153,6 +154,21 @@ final class EdgesOfTicks {
         x.due(0, "router", 0, 3);
         x.then("set", 0, 1).due(2, "tick").due(9999, "within", 0, 1, 0, 0);
         x.due(0, "tick").due(1, "within", 0, 1, 0, 0).due(1, "advert", 0, 1, 0, 1).due(4, "count", 5);
+    }
+
+    /** Of all routers in each area; and they are told apart from the 59 that are still known. */
+    private static void ageOfSixtyOfAll() {
+        Edges.of("Terms", "(each ROUTER's by itself); those of AGE 60 are no more KNOWN");
+        for (int area = 0; area <= 2; area++) {
+            Run x = Scenes.line(area, 0, 7, 1).then("ticks", 8).due(64, "count", 5);
+            for (int link = 0; link < 7; link++) {
+                x.then("set", link, 0);
+            }
+            x.then("ticks", 52).due(64, "count", 5).due(59, "advert", 7, 0, area, 1).then("tick").due(8, "count", 5);
+            for (int i = 0; i < 64; i++) {
+                x.due(i / 8 == i % 8 ? 4 : -3, "advert", i / 8, i % 8, area, 0);
+            }
+        }
     }
 
     private static void butItsOwn() {

@@ -213,6 +213,8 @@ final class EdgesOfWays {
         route(x, 0, 2, 5, 1, 1, 1);
         x.then("tick");
         route(x, 0, 2, 52, 1, 1, 1);
+        Run first = Scenes.line(0, 0, 1, 4).then("ticks", 3).then("link", 1, 2, 1, 6, 6).then("ticks", 2).due(1, "advert", 2, 1, 1, 0);
+        route(first, 2, 0, 10, 1, 1, 1);
     }
 
     private static void acrossOfLikeOnes() {
