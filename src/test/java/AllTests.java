@@ -15,6 +15,7 @@ public final class AllTests {
         WildTest.run();
         ModelTest.run();
         Edges.run();
+        ReadmeTest.run();
         if (!Check.close()) {
             System.exit(1);
         }
